@@ -24,6 +24,9 @@ public final class AgainstPlainModel {
     "net", "tie", "site"};
   private static final String[] DEAR = {"agree", "could", "rules", "learn", "quarrel", "next", "next", "best", "bestSum", "bestKind"};
 
+  private static final String[] CHANGING = {"net", "tie", "askers", "guess", "site", "room", "up", "kind", "held", "near", "late",
+    "trial", "seen", "learn", "aim", "go"};
+
   private static final Map<String, Method> OURS = new HashMap<>();
   private static final Map<String, Method> PLAIN = new HashMap<>();
   private static final Map<String, TreeMap<String, Integer>> KINDS_OF_ANSWERS = new TreeMap<>();
@@ -146,11 +149,18 @@ public final class AgainstPlainModel {
     for (int i = random.nextInt(withRing ? 4 : 60); i > 0; i--) if (!call(BUILDERS[random.nextInt(BUILDERS.length)])) return false;
     int most = Math.min(MOST_CALLS, calls.size() + 30 + random.nextInt(100));
     while (calls.size() < most) {
-      // dear calls stand between others, so that what is kept from call to call is tried
-      String[] of = random.nextInt(12) == 0 ? DEAR : CHEAP;
-      if (!call(of[random.nextInt(of.length)])) return false;
+      boolean good = random.nextInt(16) == 0 ? askAroundChange() : call(CHEAP[random.nextInt(CHEAP.length)]);
+      if (!good) return false;
     }
     return true;
+  }
+
+  /** What is kept from call to call must be forgotten where something has changed. */
+  private boolean askAroundChange() throws Exception {
+    String name = DEAR[random.nextInt(DEAR.length)];
+    Object[] with = arguments(name);
+    if (!call(name, with)) return false;
+    return call(CHANGING[random.nextInt(CHANGING.length)]) && call(name, with);
   }
 
   /** The runs are worth something only if they meet what the document tells. */

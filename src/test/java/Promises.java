@@ -625,6 +625,76 @@ public final class Promises {
     due("41: and it rests", x.rounds() != NONE ? 1 : 0, 1);
   }
 
+  private static long[] askAll(NearCopies x) {
+    long[] all = new long[14];
+    int i = 0;
+    all[i++] = x.agree();
+    all[i++] = x.could(0);
+    all[i++] = x.rules(0);
+    all[i++] = x.quarrel();
+    all[i++] = x.next(false);
+    all[i++] = x.next(true);
+    all[i++] = x.excess();
+    all[i++] = x.sum();
+    all[i++] = x.without(1);
+    all[i++] = x.best(false);
+    all[i++] = x.bestSum(true);
+    all[i++] = x.bestKind(true, 0);
+    all[i++] = x.step(0);
+    all[i++] = x.stepWorst();
+    return all;
+  }
+
+  private static NearCopies forChange() {
+    NearCopies x = fork();
+    x.guess(0, 11);
+    x.askers(0, 50);
+    x.askers(1, 7);
+    x.net(5);
+    x.net(6);
+    x.tie(4, 0, true);
+    x.late(0, 1, 3);
+    x.aim(1, 3);
+    x.aim(0, 2);
+    x.trial();
+    return x;
+  }
+
+  private static void change(NearCopies x, int which) {
+    switch (which) {
+      case 0: x.net(9); break;
+      case 1: x.tie(3, 0, true); break;
+      case 2: x.askers(2, 100); break;
+      case 3: x.guess(0, 6); break;
+      case 4: x.site(0, 1); break;
+      case 5: x.room(0, 55); break;
+      case 6: x.up(0, false); break;
+      case 7: x.kind(0, 1); break;
+      case 8: x.held(0, 1); break;
+      case 9: x.near(0, true); break;
+      case 10: x.late(0, 0, 900); break;
+      case 11: x.seen(0, 0, 1); break;
+      case 12: x.seen(0, 1, NONE); break;
+      case 13: x.seen(0, 0, 1); x.learn(); break;
+      case 14: x.go(); break;
+      default: x.aim(0, 0);
+    }
+  }
+
+  /** An object that was asked ahead of a change answers behind it as one that was not. */
+  private static void changesAreSeen() {
+    for (int which = 0; which < 16; which++) {
+      NearCopies asked = forChange();
+      NearCopies fresh = forChange();
+      long[] before = askAll(asked);
+      change(asked, which);
+      change(fresh, which);
+      long[] behind = askAll(asked);
+      dueRow("behind change " + which, behind, askAll(fresh));
+      due("change " + which + " tells", java.util.Arrays.equals(before, behind) ? 0 : 1, 1);
+    }
+  }
+
   private static void count() {
     NearCopies x = ring();
     x.up(0, false);
@@ -661,6 +731,7 @@ public final class Promises {
     aims();
     bestOrder();
     stepsWithoutRest();
+    changesAreSeen();
     count();
     System.out.println(wrong == 0 ? "all promises are kept" : wrong + " answers are not as due");
     if (wrong != 0) System.exit(1);
