@@ -31,6 +31,8 @@ public final class AgainstPlainModel {
   private static final Map<String, Method> PLAIN = new HashMap<>();
   private static final Map<String, TreeMap<String, Integer>> KINDS_OF_ANSWERS = new TreeMap<>();
 
+  private static int mostRounds = 0;
+
   private final Random random;
   private final NearCopies ours = new NearCopies();
   private final PlainModel plain = new PlainModel();
@@ -38,6 +40,7 @@ public final class AgainstPlainModel {
   private final boolean manySwaps;
   private final boolean manyGuesses;
   private final boolean withRing;
+  private final boolean withLongRun;
   private final int nets;
 
   private AgainstPlainModel(long seed) {
@@ -45,6 +48,7 @@ public final class AgainstPlainModel {
     manySwaps = random.nextInt(3) == 0;
     manyGuesses = random.nextInt(6) == 0;
     withRing = random.nextInt(3) == 0;
+    withLongRun = !withRing && seed % 4 == 0;
     nets = random.nextInt(8) == 0 ? random.nextInt(11) : 4 + random.nextInt(7);
   }
 
@@ -122,6 +126,7 @@ public final class AgainstPlainModel {
     Object[] with = given.length > 0 ? given : arguments(name);
     Object got = OURS.get(name).invoke(ours, with);
     Object due = PLAIN.get(name).invoke(plain, with);
+    if (name.equals("rounds")) mostRounds = Math.max(mostRounds, (int) due);
     calls.add(name + Arrays.toString(with) + " = " + got);
     String sort = ((Number) due).longValue() < 0 ? String.valueOf(due) : "0..";
     KINDS_OF_ANSWERS.computeIfAbsent(name, k -> new TreeMap<>()).merge(sort, 1, Integer::sum);
@@ -140,13 +145,27 @@ public final class AgainstPlainModel {
     return good && call("guess", 0, pick(1, 2, 9)) && call("guess", 1, pick(4, 12, 5, 4));
   }
 
+  /** Seven nets that rest at 40 rounds (until something is changed). */
+  private boolean makeLongRun() throws Exception {
+    boolean good = true;
+    for (int i = 0; i < 7; i++) good = good && call("net", random.nextInt(200));
+    for (int[] two : Bench.LONG_RUN_BUYS) good = good && call("tie", two[0], two[1], true);
+    for (int[] two : Bench.LONG_RUN_SWAPS) good = good && call("tie", two[0], two[1], false);
+    good = good && call("site", 6, random.nextInt(300)) && call("site", 4, random.nextInt(300));
+    good = good && call("held", 0, 1) && call("kind", 1, 3) && call("guess", 1, 8) && call("guess", 3, 8);
+    good = good && call("guess", 4, pick(4, 12)) && call("guess", 5, pick(4, 12)) && call("rounds");
+    return good;
+  }
+
   private boolean play() throws Exception {
     if (withRing && !makeRing()) return false;
+    if (withLongRun && !makeLongRun()) return false;
     for (int i = plain.askers.size(); i < nets; i++) if (!call("net")) return false;
-    for (int i = withRing ? random.nextInt(3) : nets * 3; i > 0; i--) if (!call("tie")) return false;
-    for (int i = random.nextInt(withRing ? 2 : 6); i > 0; i--) if (!call("site")) return false;
+    boolean made = withRing || withLongRun;
+    for (int i = made ? random.nextInt(3) : nets * 3; i > 0; i--) if (!call("tie")) return false;
+    for (int i = random.nextInt(made ? 2 : 6); i > 0; i--) if (!call("site")) return false;
     for (int i = 0; i < nets && manyGuesses; i++) if (!call("guess", i, aGuess())) return false;
-    for (int i = random.nextInt(withRing ? 4 : 60); i > 0; i--) if (!call(BUILDERS[random.nextInt(BUILDERS.length)])) return false;
+    for (int i = random.nextInt(made ? 4 : 60); i > 0; i--) if (!call(BUILDERS[random.nextInt(BUILDERS.length)])) return false;
     int most = Math.min(MOST_CALLS, calls.size() + 30 + random.nextInt(100));
     while (calls.size() < most) {
       boolean good = random.nextInt(16) == 0 ? askAroundChange() : call(CHEAP[random.nextInt(CHEAP.length)]);
@@ -176,6 +195,10 @@ public final class AgainstPlainModel {
         System.out.println("no run met " + want);
         missing++;
       }
+    }
+    if (mostRounds < 40) {
+      System.out.println("no run had more than " + mostRounds + " rounds");
+      missing++;
     }
     return missing;
   }
