@@ -70,6 +70,11 @@ public final class BoundariesOfSteps {
     x.late(0, 1, 5);
     choiceDue("all alike: the first", x, false, 0, 50, 0, 0);
     x = oneNet(10, 10);
+    x.kind(0, 2);
+    x.kind(1, 3);
+    due("21: asked first, as it is now", x.excess(), 0);
+    due("35: all kinds are looked at, those below what is said now, too", x.bestSum(false), 10);
+    x = oneNet(10, 10);
     x.kind(1, 2);
     x.up(1, false);
     choiceDue("the fallen one keeps its kind", x, false, 0, 50, 0, 2);
