@@ -3,7 +3,7 @@ import java.util.HashMap;
 import java.util.List;
 import java.util.Map;
 
-/** What the tests of boundaries share: objects to ask, answers that are due, and that a call changes nothing. */
+/** What the tests of promises and boundaries share: objects to ask, answers that are due, and that a call changes nothing. */
 final class Bench {
   static final int UNKNOWN = -1, OUTSIDE = -2, STATE = -3, FULL = -4, SPENT = -5, NONE = -9;
   static final int LOW = Integer.MIN_VALUE, HIGH = Integer.MAX_VALUE;

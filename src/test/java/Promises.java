@@ -2,45 +2,14 @@
 public final class Promises {
   private static final int UNKNOWN = -1, OUTSIDE = -2, STATE = -3, FULL = -4, SPENT = -5, NONE = -9;
   private static final int[] WILD = {-1, 99, Integer.MIN_VALUE, Integer.MAX_VALUE};
-  private static int wrong = 0;
 
-  private static void due(String what, long got, long want) {
-    if (got != want) {
-      wrong++;
-      System.out.println(what + " answered " + got + ", due is " + want);
-    }
-  }
+  private static void due(String what, long got, long want) { Bench.due(what, got, want); }
 
-  private static void dueRow(String what, long[] got, long... want) {
-    due(what + " length", got.length, want.length);
-    for (int i = 0; i < Math.min(got.length, want.length); i++) due(what + " at " + i, got[i], want[i]);
-  }
-
-  private static NearCopies nets(int... askers) {
-    NearCopies x = new NearCopies();
-    for (int n : askers) x.net(n);
-    return x;
-  }
-
-  /**
-   * 2 buys from 1, 1 from 0, 0 from 3; site 0 at 2 (three names), site 1 at 3 (one). Net 0 takes the one who pays,
-   * net 1 the fewest names: 0 takes 1's word, then 1 takes 0's, then both see themselves in it, and so on.
-   */
-  private static NearCopies ring() {
-    NearCopies x = nets(10, 20, 30, 40);
-    x.tie(2, 1, true);
-    x.tie(1, 0, true);
-    x.tie(0, 3, true);
-    x.site(2, 15);
-    x.kind(0, 2);
-    x.site(3, 25);
-    x.guess(1, 4);
-    return x;
-  }
+  private static void dueRow(String what, long[] got, long... want) { Bench.dueRow(what, got, want); }
 
   /** Nets 1 and 2 buy from 0, 3 from 1 and 2; site 0 at 3. */
   private static NearCopies diamond() {
-    NearCopies x = nets(1, 2, 4, 8);
+    NearCopies x = Bench.nets(1, 2, 4, 8);
     x.tie(1, 0, true);
     x.tie(2, 0, true);
     x.tie(3, 1, true);
@@ -84,7 +53,7 @@ public final class Promises {
   }
 
   private static void tie() {
-    NearCopies x = nets(0, 0, 0, 0);
+    NearCopies x = Bench.nets(0, 0, 0, 0);
     for (int w : WILD) {
       due("3: UNKNOWN a", x.tie(w, 0, true), UNKNOWN);
       due("3: UNKNOWN b", x.tie(0, w, false), UNKNOWN);
@@ -104,7 +73,7 @@ public final class Promises {
   }
 
   private static void tieFull() {
-    NearCopies x = nets(0, 0, 0, 0, 0, 0, 0);
+    NearCopies x = Bench.nets(0, 0, 0, 0, 0, 0, 0);
     int made = 0;
     for (int a = 0; a < 7; a++) {
       for (int b = a + 1; b < 7; b++) {
@@ -122,7 +91,7 @@ public final class Promises {
   }
 
   private static void tied() {
-    NearCopies x = nets(0, 0, 0);
+    NearCopies x = Bench.nets(0, 0, 0);
     x.tie(0, 1, true);
     x.tie(2, 1, false);
     dueRow("4: tied", new long[] {x.tied(0, 1), x.tied(1, 0), x.tied(1, 2), x.tied(2, 1), x.tied(0, 2), x.tied(1, 1)},
@@ -132,7 +101,7 @@ public final class Promises {
   }
 
   private static void askersAndGuess() {
-    NearCopies x = nets(7, 0);
+    NearCopies x = Bench.nets(7, 0);
     due("5: what it had", x.askers(0, 10000), 7);
     due("5: OUTSIDE", x.askers(0, 10001), OUTSIDE);
     due("5: OUTSIDE", x.askers(0, -1), OUTSIDE);
@@ -147,7 +116,7 @@ public final class Promises {
   }
 
   private static void site() {
-    NearCopies x = nets(5);
+    NearCopies x = Bench.nets(5);
     due("7: UNKNOWN ahead of OUTSIDE", x.site(1, -1), UNKNOWN);
     due("7: OUTSIDE", x.site(0, -1), OUTSIDE);
     due("7: OUTSIDE", x.site(0, 100001), OUTSIDE);
@@ -160,7 +129,7 @@ public final class Promises {
   }
 
   private static void partsOfSites() {
-    NearCopies x = nets(5, 6);
+    NearCopies x = Bench.nets(5, 6);
     x.site(0, 10);
     due("8: room", x.room(0, 100000), 10);
     due("8: OUTSIDE", x.room(0, 100001), OUTSIDE);
@@ -183,15 +152,15 @@ public final class Promises {
     due("14: home, then 1 and 2, then 0", x.rounds(), 3);
     x.kind(0, 4);
     due("14: nothing is said", x.rounds(), 0);
-    due("14: there is no rest", ring().rounds(), NONE);
-    x = nets(1);
+    due("14: there is no rest", Bench.ring().rounds(), NONE);
+    x = Bench.nets(1);
     x.site(0, 0);
     due("14: one round", x.rounds(), 1);
   }
 
   private static void passingOn() {
     // 0 swaps with 1, 1 with 2; 3 buys from 1; 1 buys from 4; 5 swaps with 4; site at 0
-    NearCopies x = nets(1, 1, 1, 1, 1, 1);
+    NearCopies x = Bench.nets(1, 1, 1, 1, 1, 1);
     x.tie(0, 1, false);
     x.tie(1, 2, false);
     x.tie(3, 1, true);
@@ -232,7 +201,7 @@ public final class Promises {
     due("17: it has none", x.way(3, 0), NONE);
     due("15: it has none", x.comes(3), NONE);
     // ten nets in a row: the longest way that there is
-    x = nets(0, 0, 0, 0, 0, 0, 0, 0, 0, 0);
+    x = Bench.nets(0, 0, 0, 0, 0, 0, 0, 0, 0, 0);
     for (int i = 0; i < 9; i++) x.tie(i, i + 1, true);
     x.site(0, 0);
     x.kind(0, 3);
@@ -253,7 +222,7 @@ public final class Promises {
     due("18: none come", x.told(0), 0);
     due("19: none", x.why(0), NONE);
     // net 0: its site with four names; 1 swaps with it, 2 buys from it, 3 sells to it, each with a site
-    x = nets(0, 0, 0, 0);
+    x = Bench.nets(0, 0, 0, 0);
     x.tie(0, 1, false);
     x.tie(2, 0, true);
     x.tie(0, 3, true);
@@ -279,7 +248,7 @@ public final class Promises {
 
   private static void sitesAtOneNet() {
     for (int rule = 0; rule < 4; rule++) {
-      NearCopies x = nets(3);
+      NearCopies x = Bench.nets(3);
       x.guess(0, 1 << rule);
       x.site(0, 0);
       x.site(0, 0);
@@ -292,7 +261,7 @@ public final class Promises {
   }
 
   private static void withoutRest() {
-    NearCopies x = ring();
+    NearCopies x = Bench.ring();
     dueRow("15 to 22: STATE", new long[] {x.comes(0), x.names(0), x.way(0, -1), x.told(0), x.why(0), x.load(0), x.excess(), x.sum()},
       STATE, STATE, STATE, STATE, STATE, STATE, STATE, STATE);
     due("15: UNKNOWN ahead of STATE", x.comes(4), UNKNOWN);
@@ -334,7 +303,7 @@ public final class Promises {
     x.up(1, false);
     due("22: to none", x.sum(), 15000);
     due("21: no load", x.excess(), 0);
-    x = nets(10000, 10000, 10000, 10000, 10000, 10000, 10000, 10000, 10000, 10000);
+    x = Bench.nets(10000, 10000, 10000, 10000, 10000, 10000, 10000, 10000, 10000, 10000);
     due("22: the greatest", x.sum(), 100000000);
     x.site(0, 0);
     for (int i = 1; i < 10; i++) x.tie(0, i, false);
@@ -359,7 +328,7 @@ public final class Promises {
   }
 
   private static void trials() {
-    NearCopies x = nets(1, 1, 1);
+    NearCopies x = Bench.nets(1, 1, 1);
     x.tie(1, 0, true);
     x.site(1, 0);
     due("26: no trial", x.seen(0, 0, 0), UNKNOWN);
@@ -395,7 +364,7 @@ public final class Promises {
   }
 
   private static void casesCounted() {
-    NearCopies x = nets(0, 0, 0, 0, 0);
+    NearCopies x = Bench.nets(0, 0, 0, 0, 0);
     due("27: one", x.cases(), 1);
     for (int net = 0; net < 4; net++) x.guess(net, 15);
     due("27: 256", x.cases(), 256);
@@ -411,7 +380,7 @@ public final class Promises {
 
   /** Net 0 takes site 0 (by 1) by rules 0 and 3, site 1 (by 2) by rule 1; rule 2 is like 0 here. */
   private static NearCopies fork() {
-    NearCopies x = nets(1, 0, 0);
+    NearCopies x = Bench.nets(1, 0, 0);
     x.tie(1, 0, true);
     x.tie(2, 0, true);
     x.site(1, 0);
@@ -469,7 +438,7 @@ public final class Promises {
   }
 
   private static void casesWithoutRest() {
-    NearCopies x = ring();
+    NearCopies x = Bench.ring();
     x.guess(1, 5);
     due("29: rule 0 rests, rule 2 does not", x.could(0), 1 | 16);
     due("29: so for each net", x.could(3), 2 | 16);
@@ -493,7 +462,7 @@ public final class Promises {
 
   private static void choices() {
     // 0 - 1 - 2 - 3 in a row of swaps; sites at 1 and 2
-    NearCopies x = nets(10, 20, 30, 40);
+    NearCopies x = Bench.nets(10, 20, 30, 40);
     x.tie(0, 1, false);
     x.tie(1, 2, false);
     x.tie(2, 3, false);
@@ -537,7 +506,7 @@ public final class Promises {
   }
 
   private static void choicesWithoutRest() {
-    NearCopies x = ring();
+    NearCopies x = Bench.ring();
     x.room(0, 1000);
     x.room(1, 1000);
     x.late(0, 0, 999);
@@ -549,7 +518,7 @@ public final class Promises {
   }
 
   private static void aims() {
-    NearCopies x = nets(10, 20, 30);
+    NearCopies x = Bench.nets(10, 20, 30);
     x.tie(0, 1, false);
     x.tie(1, 2, false);
     x.site(0, 30);
@@ -588,7 +557,7 @@ public final class Promises {
   }
 
   private static void bestOrder() {
-    NearCopies x = nets(10, 20, 30);
+    NearCopies x = Bench.nets(10, 20, 30);
     x.tie(0, 1, false);
     x.tie(1, 2, false);
     x.site(0, 0);
@@ -610,7 +579,7 @@ public final class Promises {
   }
 
   private static void stepsWithoutRest() {
-    NearCopies x = ring();
+    NearCopies x = Bench.ring();
     x.kind(0, 0);
     x.aim(0, 2);
     dueRow("40: no rest behind it", new long[] {x.steps(), x.step(0), x.stepWorst()}, 1, 0, 1000000);
@@ -696,7 +665,7 @@ public final class Promises {
   }
 
   private static void count() {
-    NearCopies x = ring();
+    NearCopies x = Bench.ring();
     x.up(0, false);
     x.trial();
     x.guess(2, 3);
@@ -733,7 +702,6 @@ public final class Promises {
     stepsWithoutRest();
     changesAreSeen();
     count();
-    System.out.println(wrong == 0 ? "all promises are kept" : wrong + " answers are not as due");
-    if (wrong != 0) System.exit(1);
+    Bench.end("promises");
   }
 }
