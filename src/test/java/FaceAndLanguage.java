@@ -9,6 +9,8 @@ import java.nio.file.Path;
 import java.util.ArrayList;
 import java.util.Arrays;
 import java.util.List;
+import java.util.Map;
+import java.util.TreeMap;
 import java.util.TreeSet;
 import java.util.regex.Matcher;
 import java.util.regex.Pattern;
@@ -22,6 +24,7 @@ public final class FaceAndLanguage {
     + " bestSum(boolean)long bestKind(boolean,int) aim(int,int) steps() step(int) stepWorst() go() count(int)";
   private static final String CONSTANTS = "FULL=-4 NONE=-9 OUTSIDE=-2 SPENT=-5 STATE=-3 UNKNOWN=-1";
   private static final int[] WILD = {Integer.MIN_VALUE, -10, -9, -1, 0, 1, 3, 4, 5, 9, 10, 15, 16, 1000, Integer.MAX_VALUE};
+  private static final String LIBRARY = " Arrays.fill System.arraycopy Math.max Math.min Integer.bitCount Integer.numberOfTrailingZeros ";
   private static int wrong = 0;
 
   private static void want(boolean good, String what) {
@@ -94,15 +97,45 @@ public final class FaceAndLanguage {
     Matcher imports = Pattern.compile("import [^;]*;").matcher(text);
     while (imports.find()) want(imports.group().equals("import java.util.Arrays;"), imports.group());
     for (char sign : text.toCharArray()) want(sign < 128, "only signs below 128");
-    List<String> lines = Files.readAllLines(file);
-    int start = 0;
-    for (int i = 0; i < lines.size(); i++) {
-      if (lines.get(i).matches(" {4}( {4})?(public|private|static|final|int|long|boolean|void)[^;=]*\\{")) start = i;
-      if (lines.get(i).matches(" {8}\\}") || lines.get(i).matches(" {4}\\}")) {
-        boolean isClass = lines.get(start).contains(" class ");
-        want(isClass || i - start <= 60, "the method at line " + (start + 1) + " stays short");
-      }
+    Matcher library = Pattern.compile("\\b(Arrays|System|Math|Integer|Long)\\.(\\w+)").matcher(text);
+    while (library.find()) want(LIBRARY.contains(" " + library.group() + " "), library.group() + " is none of the library's that are used");
+    methods(text.split("\n"));
+  }
+
+  /** Methods of the source by name (those of one name together): what each calls, and that each stays short. */
+  private static void methods(String[] lines) {
+    Map<String, String> bodies = new TreeMap<>();
+    for (int i = 0; i < lines.length; i++) {
+      Matcher head = Pattern.compile("( {4}| {8})(?:[a-z]+ )*[A-Za-z\\[\\]]+ (\\w+)\\([^;=]*\\) \\{").matcher(lines[i]);
+      if (!head.matches() || head.group(2).equals("if")) continue;
+      int start = i;
+      StringBuilder body = new StringBuilder();
+      while (i + 1 < lines.length && !lines[i].equals(head.group(1) + "}")) body.append(lines[++i]).append('\n');
+      bodies.merge(head.group(2), body.toString(), String::concat);
+      want(i - start <= 60, head.group(2) + " stays short");
     }
+    want(bodies.keySet().equals(methodNames()), "all methods are found: " + bodies.keySet());
+    for (String name : bodies.keySet()) {
+      int deep = depth(bodies, name, 1);
+      want(deep <= 8, name + " goes " + deep + " calls deep");
+    }
+  }
+
+  private static TreeSet<String> methodNames() {
+    TreeSet<String> names = new TreeSet<>(List.of("NearCopies"));
+    for (Method m : NearCopies.class.getDeclaredMethods()) names.add(m.getName());
+    for (Class<?> inner : NearCopies.class.getDeclaredClasses()) for (Method m : inner.getDeclaredMethods()) names.add(m.getName());
+    return names;
+  }
+
+  /** How many calls stand open at once below a method, with it; a method that calls itself never ends: far beyond eight. */
+  private static int depth(Map<String, String> bodies, String name, int level) {
+    int deepest = level;
+    Matcher call = Pattern.compile("\\b(\\w+)\\(").matcher(bodies.get(name));
+    while (call.find() && deepest < 30) {
+      if (bodies.containsKey(call.group(1))) deepest = Math.max(deepest, depth(bodies, call.group(1), level + 1));
+    }
+    return deepest;
   }
 
   private static List<NearCopies> states() {
